@@ -15,6 +15,7 @@ public final class DueTest {
         nextAndPreviousOfAFullRule();
         nextAndPreviousWithinADay();
         nextAndPreviousOverDays();
+        theFirstOfTheMonths();
         aLeapDayIsFarAway();
         nothingIsEverDue();
         nextAndPreviousRefuse();
@@ -135,6 +136,19 @@ public final class DueTest {
         only(x, 3, MONTHS, 1);
         CHECK.due("31st or Friday, in January", x.next(3, minute(30, 23, 59)), minute(370, 23, 59));
         CHECK.due("31st or Friday, in January, back", x.previous(3, minute(370, 23, 59)), minute(30, 23, 59));
+    }
+
+    private static void theFirstOfTheMonths() {
+        CronCalendar x = new CronCalendar();
+        only(x, 0, MONTH_DAYS, 1);
+        CHECK.due("the first minute of 1 February 2000", x.next(0, minute(0, 23, 59)), minute(31, 0, 0));
+        CHECK.due("the last minute of 1 February 2000", x.previous(0, minute(60, 0, 0)), minute(31, 23, 59));
+        CHECK.due("the last minute of 1 January 2000", x.previous(0, minute(31, 0, 0)), minute(0, 23, 59));
+        CHECK.due("1 December 2399 is the last", x.next(0, minute(146065, 0, 0)), minute(146066, 0, 0));
+        CHECK.due("1 January 2400 is no good day", x.next(0, minute(146066, 23, 59)), -2);
+        only(x, 0, MONTH_DAYS, 2);
+        CHECK.due("2 January 2000 is the first", x.previous(0, minute(2, 0, 0)), minute(1, 23, 59));
+        CHECK.due("2 December 1999 is no good day", x.previous(0, minute(1, 0, 0)), -2);
     }
 
     private static void aLeapDayIsFarAway() {
