@@ -2,11 +2,6 @@
 public final class DueTest {
     private static final Check CHECK = new Check();
     private static final long LAST_MINUTE = 210379679L;
-    private static final int MINUTES = 0;
-    private static final int HOURS = 1;
-    private static final int MONTH_DAYS = 2;
-    private static final int MONTHS = 3;
-    private static final int WEEKDAYS = 4;
 
     public static void main(String[] args) {
         fitsLooksAtEveryField();
@@ -27,11 +22,6 @@ public final class DueTest {
         CHECK.finish();
     }
 
-    private static void only(CronCalendar x, int rule, int field, int value) {
-        x.fill(rule, field);
-        x.allow(8 * rule + field, 65 * value, 1);
-    }
-
     private static long minute(int day, int hour, int minute) {
         return 1440L * day + 60 * hour + minute;
     }
@@ -41,9 +31,9 @@ public final class DueTest {
         int[] values = {30, 8, 29, 2, 2};
         for (int field = 0; field < 5; field++) {
             CronCalendar x = new CronCalendar();
-            only(x, 0, field, values[field]);
+            Fields.allowOnly(x, 0, field, values[field]);
             CHECK.due("field " + field + " allowed", x.fits(0, minute(59, 8, 30)), 1);
-            only(x, 0, field, values[field] + 1);
+            Fields.allowOnly(x, 0, field, values[field] + 1);
             CHECK.due("field " + field + " not allowed", x.fits(0, minute(59, 8, 30)), 0);
             CHECK.due("another rule", x.fits(1, minute(59, 8, 30)), 1);
         }
@@ -52,19 +42,19 @@ public final class DueTest {
     private static void fitsNeedsBothOrOne() {
         CronCalendar x = new CronCalendar();
         // Day 12 is Thursday, 13 January 2000; day 6 is Friday, the 7th; day 286 is Friday, 13 October.
-        only(x, 2, MONTH_DAYS, 13);
+        Fields.allowOnly(x, 2, Fields.MONTH_DAYS, 13);
         CHECK.due("the 13th, weekdays full", x.fits(2, minute(12, 0, 0)), 1);
         CHECK.due("the 7th, weekdays full", x.fits(2, minute(6, 0, 0)), 0);
-        only(x, 2, WEEKDAYS, 5);
+        Fields.allowOnly(x, 2, Fields.WEEKDAYS, 5);
         CHECK.due("Thursday 13th, neither full", x.fits(2, minute(12, 0, 0)), 1);
         CHECK.due("Friday 7th, neither full", x.fits(2, minute(6, 0, 0)), 1);
         CHECK.due("Friday 13th, neither full", x.fits(2, minute(286, 0, 0)), 1);
         CHECK.due("Saturday 8th, neither full", x.fits(2, minute(7, 0, 0)), 0);
-        only(x, 2, MONTHS, 10);
+        Fields.allowOnly(x, 2, Fields.MONTHS, 10);
         CHECK.due("Friday 7th, another month", x.fits(2, minute(6, 0, 0)), 0);
         CHECK.due("Friday 13th, the month", x.fits(2, minute(286, 0, 0)), 1);
-        x.fill(2, MONTHS);
-        x.fill(2, MONTH_DAYS);
+        x.fill(2, Fields.MONTHS);
+        x.fill(2, Fields.MONTH_DAYS);
         CHECK.due("Thursday 13th, days of the month full", x.fits(2, minute(12, 0, 0)), 0);
         CHECK.due("Friday 7th, days of the month full", x.fits(2, minute(6, 0, 0)), 1);
     }
@@ -103,8 +93,8 @@ public final class DueTest {
 
     private static void nextAndPreviousWithinADay() {
         CronCalendar x = new CronCalendar();
-        x.allow(8 + MINUTES, 64 * 15 + 45, 30);
-        x.allow(8 + HOURS, 64 * 8 + 20, 12);
+        x.allow(8 + Fields.MINUTES, 64 * 15 + 45, 30);
+        x.allow(8 + Fields.HOURS, 64 * 8 + 20, 12);
         CHECK.due("from the day's begin", x.next(1, minute(5, 0, 0) - 1), minute(5, 8, 15));
         CHECK.due("just before", x.next(1, minute(5, 8, 14)), minute(5, 8, 15));
         CHECK.due("greater, not equal", x.next(1, minute(5, 8, 15)), minute(5, 8, 45));
@@ -122,41 +112,41 @@ public final class DueTest {
 
     private static void nextAndPreviousOverDays() {
         CronCalendar x = new CronCalendar();
-        only(x, 3, MINUTES, 59);
-        only(x, 3, HOURS, 23);
-        only(x, 3, MONTH_DAYS, 31);
+        Fields.allowOnly(x, 3, Fields.MINUTES, 59);
+        Fields.allowOnly(x, 3, Fields.HOURS, 23);
+        Fields.allowOnly(x, 3, Fields.MONTH_DAYS, 31);
         CHECK.due("31 January to 31 March 2000", x.next(3, minute(30, 23, 59)), minute(90, 23, 59));
         CHECK.due("31 March to 31 January 2000", x.previous(3, minute(90, 23, 59)), minute(30, 23, 59));
         CHECK.due("31 December 2000 to 31 January 2001", x.next(3, minute(365, 23, 59)), minute(396, 23, 59));
         CHECK.due("31 January 2001 to 31 December 2000", x.previous(3, minute(396, 23, 59)), minute(365, 23, 59));
         CHECK.due("the last minute of all", x.next(3, LAST_MINUTE - 1), LAST_MINUTE);
-        only(x, 3, WEEKDAYS, 5);
+        Fields.allowOnly(x, 3, Fields.WEEKDAYS, 5);
         CHECK.due("31st or Friday", x.next(3, minute(30, 23, 59)), minute(34, 23, 59));
         CHECK.due("31st or Friday, back", x.previous(3, minute(34, 23, 59)), minute(30, 23, 59));
-        only(x, 3, MONTHS, 1);
+        Fields.allowOnly(x, 3, Fields.MONTHS, 1);
         CHECK.due("31st or Friday, in January", x.next(3, minute(30, 23, 59)), minute(370, 23, 59));
         CHECK.due("31st or Friday, in January, back", x.previous(3, minute(370, 23, 59)), minute(30, 23, 59));
     }
 
     private static void theFirstOfTheMonths() {
         CronCalendar x = new CronCalendar();
-        only(x, 0, MONTH_DAYS, 1);
+        Fields.allowOnly(x, 0, Fields.MONTH_DAYS, 1);
         CHECK.due("the first minute of 1 February 2000", x.next(0, minute(0, 23, 59)), minute(31, 0, 0));
         CHECK.due("the last minute of 1 February 2000", x.previous(0, minute(60, 0, 0)), minute(31, 23, 59));
         CHECK.due("the last minute of 1 January 2000", x.previous(0, minute(31, 0, 0)), minute(0, 23, 59));
         CHECK.due("1 December 2399 is the last", x.next(0, minute(146065, 0, 0)), minute(146066, 0, 0));
         CHECK.due("1 January 2400 is no good day", x.next(0, minute(146066, 23, 59)), -2);
-        only(x, 0, MONTH_DAYS, 2);
+        Fields.allowOnly(x, 0, Fields.MONTH_DAYS, 2);
         CHECK.due("2 January 2000 is the first", x.previous(0, minute(2, 0, 0)), minute(1, 23, 59));
         CHECK.due("2 December 1999 is no good day", x.previous(0, minute(1, 0, 0)), -2);
     }
 
     private static void aLeapDayIsFarAway() {
         CronCalendar x = new CronCalendar();
-        only(x, 0, MINUTES, 7);
-        only(x, 0, HOURS, 12);
-        only(x, 0, MONTH_DAYS, 29);
-        only(x, 0, MONTHS, 2);
+        Fields.allowOnly(x, 0, Fields.MINUTES, 7);
+        Fields.allowOnly(x, 0, Fields.HOURS, 12);
+        Fields.allowOnly(x, 0, Fields.MONTH_DAYS, 29);
+        Fields.allowOnly(x, 0, Fields.MONTHS, 2);
         CHECK.due("from 2096 to 2104", x.next(0, minute(35123, 12, 7)), minute(38044, 12, 7));
         CHECK.due("from 2104 to 2096", x.previous(0, minute(38044, 12, 7)), minute(35123, 12, 7));
         CHECK.due("the first", x.next(0, -1), minute(59, 12, 7));
@@ -167,8 +157,8 @@ public final class DueTest {
 
     private static void nothingIsEverDue() {
         CronCalendar x = new CronCalendar();
-        only(x, 0, MONTH_DAYS, 30);
-        only(x, 0, MONTHS, 2);
+        Fields.allowOnly(x, 0, Fields.MONTH_DAYS, 30);
+        Fields.allowOnly(x, 0, Fields.MONTHS, 2);
         CHECK.due("no 30 February after", x.next(0, Long.MIN_VALUE), -2);
         CHECK.due("no 30 February before", x.previous(0, Long.MAX_VALUE), -2);
         CHECK.due("no 30 February in 1000 days", x.dueDays(0, 0, 1000), 0);
@@ -188,16 +178,16 @@ public final class DueTest {
         CronCalendar x = new CronCalendar();
         CHECK.due("all", x.dueOn(0, 0), 1440);
         CHECK.due("all on the last day", x.dueOn(0, 146096), 1440);
-        x.allow(MINUTES, 59, 20);
+        x.allow(Fields.MINUTES, 59, 20);
         CHECK.due("3 minutes of 24 hours", x.dueOn(0, 0), 72);
-        x.allow(HOURS, 23, 6);
+        x.allow(Fields.HOURS, 23, 6);
         CHECK.due("3 minutes of 4 hours", x.dueOn(0, 0), 12);
-        only(x, 0, WEEKDAYS, 0);
+        Fields.allowOnly(x, 0, Fields.WEEKDAYS, 0);
         CHECK.due("Saturday", x.dueOn(0, 0), 0);
         CHECK.due("Sunday", x.dueOn(0, 1), 12);
-        only(x, 0, MONTH_DAYS, 1);
+        Fields.allowOnly(x, 0, Fields.MONTH_DAYS, 1);
         CHECK.due("Saturday 1st", x.dueOn(0, 0), 12);
-        only(x, 0, MONTHS, 2);
+        Fields.allowOnly(x, 0, Fields.MONTHS, 2);
         CHECK.due("another month", x.dueOn(0, 0), 0);
     }
 
@@ -212,7 +202,7 @@ public final class DueTest {
 
     private static void dueDaysCounts() {
         CronCalendar x = new CronCalendar();
-        only(x, 0, WEEKDAYS, 6);
+        Fields.allowOnly(x, 0, Fields.WEEKDAYS, 6);
         CHECK.due("no day", x.dueDays(0, 0, 0), 0);
         CHECK.due("one Saturday", x.dueDays(0, 0, 1), 1);
         CHECK.due("a Sunday", x.dueDays(0, 1, 1), 0);
@@ -221,8 +211,8 @@ public final class DueTest {
         CHECK.due("1000 days", x.dueDays(0, 0, 1000), 143);
         // They run from a Sunday to a Friday.
         CHECK.due("the last 1000 days", x.dueDays(0, 145097, 1000), 142);
-        only(x, 0, MINUTES, 0);
-        only(x, 0, HOURS, 0);
+        Fields.allowOnly(x, 0, Fields.MINUTES, 0);
+        Fields.allowOnly(x, 0, Fields.HOURS, 0);
         CHECK.due("days, not minutes", x.dueDays(0, 0, 8), 2);
     }
 
@@ -250,16 +240,16 @@ public final class DueTest {
 
     private static void questionsChangeNothing() {
         CronCalendar x = new CronCalendar();
-        only(x, 0, HOURS, 9);
+        Fields.allowOnly(x, 0, Fields.HOURS, 9);
         for (int round = 0; round < 2; round++) {
             CHECK.due("next again", x.next(0, 0), 540);
             CHECK.due("previous again", x.previous(0, 5000), minute(3, 9, 59));
             CHECK.due("fits again", x.fits(0, 540), 1);
             CHECK.due("dueOn again", x.dueOn(0, 3), 60);
             CHECK.due("dueDays again", x.dueDays(0, 3, 9), 9);
-            CHECK.due("allowed again", x.allowed(0, HOURS, 8), 0);
+            CHECK.due("allowed again", x.allowed(0, Fields.HOURS, 8), 0);
         }
-        CHECK.due("another field is still full", x.fill(0, MINUTES), 1);
-        CHECK.due("the field is still not full", x.fill(0, HOURS), 0);
+        CHECK.due("another field is still full", x.fill(0, Fields.MINUTES), 1);
+        CHECK.due("the field is still not full", x.fill(0, Fields.HOURS), 0);
     }
 }

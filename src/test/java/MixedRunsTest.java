@@ -5,8 +5,6 @@ public final class MixedRunsTest {
     private static final Check CHECK = new Check();
     private static final int RUNS = 300;
     private static final int CALLS = 512;
-    private static final int[] LEAST = {0, 0, 1, 1, 0};
-    private static final int[] GREATEST = {59, 23, 31, 12, 6};
 
     private final Random random;
     private final CronCalendar x = new CronCalendar();
@@ -82,8 +80,8 @@ public final class MixedRunsTest {
         int rule = rule();
         int field = field();
         int known = field < 0 || field > 4 ? 0 : field;
-        int from = between(LEAST[known], GREATEST[known]);
-        int to = random.nextBoolean() ? from : between(from, GREATEST[known]);
+        int from = between(Fields.LEAST[known], Fields.GREATEST[known]);
+        int to = random.nextBoolean() ? from : between(from, Fields.GREATEST[known]);
         int what = 8 * rule + field;
         int span = seldom() ? between(-70, 4100) : 64 * from + to;
         int step = seldom() ? between(-1, 61) : between(1, 12);

@@ -1,8 +1,6 @@
 /** Promises 1 to 4 and 18: the fields of the rules, and how they are changed. */
 public final class RulesTest {
     private static final Check CHECK = new Check();
-    private static final int[] LEAST = {0, 0, 1, 1, 0};
-    private static final int[] GREATEST = {59, 23, 31, 12, 6};
 
     public static void main(String[] args) {
         aNewObjectIsFull();
@@ -40,7 +38,7 @@ public final class RulesTest {
         for (int rule = 0; rule < 4; rule++) {
             for (int field = 0; field < 5; field++) {
                 CronCalendar x = new CronCalendar();
-                int values = GREATEST[field] - LEAST[field] + 1;
+                int values = Fields.size(field);
                 CHECK.due("new: values of " + rule + ", " + field, countAllowed(x, rule, field), values);
                 CHECK.due("new: fill(" + rule + ", " + field + ")", x.fill(rule, field), 1);
             }
@@ -90,8 +88,8 @@ public final class RulesTest {
             for (int field = 0; field < 5; field++) {
                 CronCalendar x = new CronCalendar();
                 int what = what(rule, field);
-                int least = LEAST[field];
-                int greatest = GREATEST[field];
+                int least = Fields.LEAST[field];
+                int greatest = Fields.GREATEST[field];
                 String place = "rule " + rule + ", field " + field + ": ";
                 CHECK.due(place + "below", x.allow(what, span(least - 1, greatest), 1), -3);
                 CHECK.due(place + "above", x.allow(what, span(least, greatest + 1), 1), -3);
@@ -171,7 +169,7 @@ public final class RulesTest {
             CronCalendar x = new CronCalendar();
             x.allow(what(2, field), span(2, 3), 1);
             CHECK.due("fill of a field that was not full", x.fill(2, field), 0);
-            CHECK.due("all values again", countAllowed(x, 2, field), GREATEST[field] - LEAST[field] + 1);
+            CHECK.due("all values again", countAllowed(x, 2, field), Fields.size(field));
             CHECK.due("fill of a field that was full", x.fill(2, field), 1);
         }
     }
@@ -191,10 +189,10 @@ public final class RulesTest {
     private static void allowedKnowsTheValues() {
         for (int field = 0; field < 5; field++) {
             CronCalendar x = new CronCalendar();
-            CHECK.due("below the least", x.allowed(3, field, LEAST[field] - 1), 0);
-            CHECK.due("the least", x.allowed(3, field, LEAST[field]), 1);
-            CHECK.due("the greatest", x.allowed(3, field, GREATEST[field]), 1);
-            CHECK.due("above the greatest", x.allowed(3, field, GREATEST[field] + 1), 0);
+            CHECK.due("below the least", x.allowed(3, field, Fields.LEAST[field] - 1), 0);
+            CHECK.due("the least", x.allowed(3, field, Fields.LEAST[field]), 1);
+            CHECK.due("the greatest", x.allowed(3, field, Fields.GREATEST[field]), 1);
+            CHECK.due("above the greatest", x.allowed(3, field, Fields.GREATEST[field] + 1), 0);
             CHECK.due("MIN", x.allowed(3, field, Integer.MIN_VALUE), 0);
             CHECK.due("MAX", x.allowed(3, field, Integer.MAX_VALUE), 0);
             // A shift by the value would wrap around to one that is allowed.
@@ -218,10 +216,10 @@ public final class RulesTest {
     private static void allowNeverMakesFull() {
         for (int field = 0; field < 5; field++) {
             CronCalendar x = new CronCalendar();
-            int all = span(LEAST[field], GREATEST[field]);
+            int all = span(Fields.LEAST[field], Fields.GREATEST[field]);
             x.allow(what(0, field), all, 1);
             CHECK.due("all allowed at once is not full", x.fill(0, field), 0);
-            for (int value = LEAST[field]; value <= GREATEST[field]; value++) {
+            for (int value = Fields.LEAST[field]; value <= Fields.GREATEST[field]; value++) {
                 x.allow(what(0, field), span(value, value), 1);
             }
             CHECK.due("all allowed one by one is not full", x.fill(0, field), 0);
